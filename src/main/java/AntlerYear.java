@@ -1577,22 +1577,15 @@ public final class AntlerYear {
 
         /** Finds the shortest ring through a man, of like ones the first by men; false if there is none. */
         boolean find(Facts f, Moment t, int home) {
-            length = 0;
             measure(f, t, home);
             int steps = stepsFrom(f, home);
-            if (steps == NONE) {
-                return false;
-            }
-            length = steps;
+            length = steps == NONE ? 0 : Math.min(steps, MAX_MEN);
             int at = home;
-            for (int i = 0; i < length && i < MAX_MEN; i++) {
+            for (int i = 0; i < length && at != NONE; i++) {
                 row[i] = at;
                 at = firstTowards(f, at, length - 1 - i);
-                if (at == NONE) {
-                    return i == length - 1;
-                }
             }
-            return true;
+            return length > 0;
         }
 
         private void measure(Facts f, Moment t, int home) {

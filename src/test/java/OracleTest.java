@@ -7,6 +7,8 @@ public final class OracleTest {
     private static final String[] NAMES = {"abe", "b", "coins", "dovdovdo", "e", "great", "h", "hole", "wide", "zz"};
 
     private final Random random;
+    private AntlerYear used = new AntlerYear();
+    private int tellings = 0;
 
     private OracleTest(long seed) {
         random = new Random(seed);
@@ -129,7 +131,7 @@ public final class OracleTest {
 
     private void year(String text) {
         Oracle o = new Oracle(text);
-        AntlerYear x = Check.told(text);
+        AntlerYear x = again(text, o.men());
         compare(x, o, text);
         for (int n = 0; n < 3; n++) {
             StringBuilder acts = new StringBuilder(text).append(" | ");
@@ -138,6 +140,16 @@ public final class OracleTest {
             }
             compare(x, o, acts.toString());
         }
+    }
+
+    /** The same object for some duchies, so that what an earlier one left behind would be seen. */
+    private AntlerYear again(String text, int men) {
+        tellings++;
+        if (tellings % 20 == 0) {
+            used = new AntlerYear();
+        }
+        Check.due("duchy of " + text, Check.tell(used, text), men);
+        return used;
     }
 
     private String act(AntlerYear x, Oracle o) {
