@@ -1282,7 +1282,7 @@ public final class AntlerYear {
                 return blame(AGAIN);
             }
             advance();
-            if (!isName()) {
+            if (sort != WORD || isLineWord()) {
                 return blame(FORM);
             }
             int d = indexOf(doorNames, f.doors, code());
@@ -1350,7 +1350,7 @@ public final class AntlerYear {
         }
 
         private boolean isNewName(Facts f) {
-            if (!isName()) {
+            if (sort != WORD || isLineWord()) {
                 return blame(FORM);
             }
             long name = code();
@@ -1361,7 +1361,7 @@ public final class AntlerYear {
         }
 
         private int manHere(Facts f) {
-            if (!isName()) {
+            if (sort != WORD || isLineWord()) {
                 blame(FORM);
                 return NONE;
             }
@@ -1383,10 +1383,6 @@ public final class AntlerYear {
                 return DUKE;
             }
             return is("freak") ? FREAK : NONE;
-        }
-
-        private boolean isName() {
-            return sort == WORD && !isLineWord();
         }
 
         private boolean isLineWord() {
