@@ -15,17 +15,27 @@ final class Check {
 
     private static int right = 0;
     private static int wrong = 0;
+    private static String about = "";
 
     private Check() {
     }
 
+    /** What the next answers are about, printed ahead of those that are not as due. */
+    static void about(String words) {
+        about = words.isEmpty() ? "" : words + ": ";
+    }
+
     static void due(String what, long got, long want) {
-        if (got == want) {
+        same(what, Long.toString(got), Long.toString(want));
+    }
+
+    static void same(String what, String got, String want) {
+        if (got.equals(want)) {
             right++;
         } else {
             wrong++;
             if (wrong <= 50) {
-                System.out.println(what + " answered " + got + ", due is " + want);
+                System.out.println(about + what + " answered " + got + ", due is " + want);
             }
         }
     }
