@@ -202,7 +202,8 @@ final class ActEdges {
             run.does(act);
         }
         run.gives("back(0)", 1).asks("size(12)", 2).asks("size(11)", 0).asks("size(10)", 0);
-        for (String ask : new String[] {"man(0, 1)", "man(1, 1)", "debt(0, 2)", "debt(1, 2)", "debt(2, 2)", "heads()"}) {
+        String[] asks = {"man(0, 1)", "man(1, 1)", "debt(0, 2)", "debt(1, 2)", "debt(2, 2)", "heads()"};
+        for (String ask : asks) {
             run.asks(ask, same.does(ask));
         }
         run.gives("back(1)", 1).asks("size(10)", 1).asks("debt(0, 2)", 0).asks("size(12)", 2);
@@ -222,7 +223,8 @@ final class ActEdges {
         Doc.says("Promise 51", "The i-th man, by numbers, whose HEAD is above his strength.");
         String five = Texts.PLAIN + Texts.men("common 0 3", "duke 0 9", "lady 0 0", "freak 0 0", "common 0 9");
         String rows = Texts.owes("a b 4 0", "b a 5 0", "c a 99 0", "d a 1 0", "e a 10 0");
-        Run run = Run.told(five + rows).leavesTrouble("led(0)", 0).asks("led(1)", 1).asks("led(2)", 3).asks("led(3)", 4);
+        Run run = Run.told(five + rows).leavesTrouble("led(0)", 0).asks("led(1)", 1).asks("led(2)", 3)
+            .asks("led(3)", 4);
         Run.told(five + rows.replace("a b 4", "a b 3")).asks("led(0)", 1).asks("led(2)", 4);
         Run.told(five + rows.replace("b a 5", "b a 4")).asks("led(0)", 0).asks("led(1)", 3);
         Run.told(five + rows.replace("e a 10", "e a 9")).asks("led(2)", 3).asks("led(3)", Run.THREW);

@@ -192,7 +192,8 @@ final class ChanceEdges {
         Run.told(bald).tells("moths(0, 0, 1)", 0).tells("moths(1, 0, 1)", 1).tells("moths(2, 0, 1)", 0);
         // Behind the spring: what comes up in it is there to be eaten, and counts for a draw.
         Run.told(Texts.duchy(1, 0, 0, 100) + Texts.commons(2) + Texts.owes("a b 3 1")).tells("moths(0, 0, 0)", 0)
-            .tells("moths(0, 0, 1)", 2).tells("moths(0, 0, 2)", 1).tells("moths(0, 0, 3)", 0).tells("moths(0, 0, 4)", 0);
+            .tells("moths(0, 0, 1)", 2).tells("moths(0, 0, 2)", 1).tells("moths(0, 0, 3)", 0)
+            .tells("moths(0, 0, 4)", 0);
         Run.told(Texts.duchy(1, 0, 0, 25) + Texts.commons(2) + Texts.owes("a b 1 1", "b a 1 0"))
             .tells("moths(0, 0, 1)", 1).tells("moths(1, 0, 1)", 0);
         // By numbers of men, not of debts.
@@ -222,7 +223,8 @@ final class ChanceEdges {
 
     private static void seeds() {
         Doc.says("Terms III", "(SEED becomes (75 times SEED and 74) mod 65,537).");
-        // 872 becomes 65,474; 873 passes the end and becomes 12; 45,438 becomes 0, 65,536 itself; 65,535 becomes 65,461.
+        // 872 becomes 65,474; 873 passes the end and becomes 12; 45,438 becomes 0; 65,535 becomes 65,461, and 65,536
+        // itself.
         int[][] rows = {{0, 74}, {1, 49}, {872, 74}, {873, 12}, {45438, 0}, {65535, 61}, {65536, 36}};
         for (int[] row : rows) {
             seeded(row[1]).tells("eaten(" + row[0] + ", 1)", 0);
@@ -241,7 +243,8 @@ final class ChanceEdges {
     private static void moths() {
         Doc.says("Promise 42", "HEAD of a man behind n springs (0 .. 20) with MOTHS by a SEED (0 .. 65,536).");
         Run run = Run.told(Check.BASE).tells("moths(0, 0, 0)", 3).tells("moths(0, 65536, 0)", 3)
-            .tells("moths(0, 0, 1)", 5).tells("moths(2, 0, 1)", 2).tells("moths(2, 0, 2)", 0).tells("moths(1, 0, 20)", 0);
+            .tells("moths(0, 0, 1)", 5).tells("moths(2, 0, 1)", 2).tells("moths(2, 0, 2)", 0)
+            .tells("moths(1, 0, 20)", 0);
         run.does("spring()");
         run.tells("moths(0, 0, 0)", 5);
         seeded(100).tells("moths(0, 65536, 20)", 79).tells("moths(0, 0, 20)", 79).tells("moths(1, 0, 20)", 0);

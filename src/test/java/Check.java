@@ -26,17 +26,26 @@ final class Check {
     }
 
     static void due(String what, long got, long want) {
-        same(what, Long.toString(got), Long.toString(want));
+        // No text is made of an answer that is as due: RoomTest counts what is made.
+        if (got == want) {
+            right++;
+        } else {
+            tellWrong(what, Long.toString(got), Long.toString(want));
+        }
     }
 
     static void same(String what, String got, String want) {
         if (got.equals(want)) {
             right++;
         } else {
-            wrong++;
-            if (wrong <= 50) {
-                System.out.println(about + what + " answered " + got + ", due is " + want);
-            }
+            tellWrong(what, got, want);
+        }
+    }
+
+    private static void tellWrong(String what, String got, String want) {
+        wrong++;
+        if (wrong <= 50) {
+            System.out.println(about + what + " answered " + got + ", due is " + want);
         }
     }
 

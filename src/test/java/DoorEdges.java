@@ -42,6 +42,11 @@ final class DoorEdges {
             toll("freak", "a b 12 0", wide, wide < 2 ? freak[wide] : 0);
             toll("lady", "a b 12 0", wide, 0);
         }
+        // As many debts as there may be: tines of 1, 1, 2, 2, 3, 4, 5, 5 and 5 coins.
+        int[] seven = {28, 23, 18, 13, 9, 6, 4, 2, 1, 0};
+        for (int wide = 0; wide < seven.length; wide++) {
+            toll("common", "a b 1 0,a b 2 0,a b 3 0,a b 4 0,a b 5 0,a b 6 0,a b 7 0", wide, seven[wide]);
+        }
         toll("common", "a b 99 0", 19, 4);
         toll("common", "a b 99 0", 0, 99);
         toll("common", "a b 5 0", 0, 5);
@@ -199,8 +204,8 @@ final class DoorEdges {
     private static void guests() {
         Doc.says("Promise 22", "GUESTS: how many.");
         Run.told(Texts.PLAIN + Texts.commons(5)).tells("guests()", 0);
-        Run run = Run.told(Texts.PLAIN + Texts.men("common 1 0", "lady 0 0") + Texts.owes("a b 1 0") + Texts.doors(0, 0))
-            .tells("guests()", 1);
+        Run run = Run.told(Texts.PLAIN + Texts.men("common 1 0", "lady 0 0") + Texts.owes("a b 1 0")
+            + Texts.doors(0, 0)).tells("guests()", 1);
         run.does("pay(0, 1)");
         run.tells("guests()", 2);
         Doc.says("Promise 22", "NONE: 1 (no DUCHY).");

@@ -126,8 +126,8 @@ final class NowEdges {
             + "4 BURDEN, 5 what is LEFT of all DUE that he owes, 6 of all DUE that he is owed, "
             + "7 men he owes (DUE), as bits.");
         Run run = Run.told(FIVE);
-        rows(run, "man", new int[][] {{0, 9, 4, 3, 3, 12, 11, 4}, {1, 30, 2, 0, 4, 20, 0, 4}, {2, 40, 6, 4, 2, 8, 32, 8},
-            {3, 3, 4, 2, 3, 11, 8, 1}, {0, 99, 9, 0, 0, 0, 0, 0}});
+        rows(run, "man", new int[][] {{0, 9, 4, 3, 3, 12, 11, 4}, {1, 30, 2, 0, 4, 20, 0, 4},
+            {2, 40, 6, 4, 2, 8, 32, 8}, {3, 3, 4, 2, 3, 11, 8, 1}, {0, 99, 9, 0, 0, 0, 0, 0}});
         run.tells("man(0, 0)", 0).tells("man(4, 7)", 0);
         run = springs(Run.told(FIVE), 9);
         run.does("pay(0, 4)");

@@ -78,6 +78,11 @@ final class RingEdges {
         run = Run.told(two.replace("owes b a 6", "owes b a 10"));
         run.does("spring()");
         run.gives("letOff(0)", 10).asks("debt(0, 2)", 0).asks("debt(1, 2)", 3).asks("debt(2, 2)", 3);
+        // As many debts as there may be: all of them, and as much as three of them and a coin of the fourth.
+        String seven = FIVE + Texts.owes("a b 1 0", "a b 2 0", "a b 3 0", "a b 4 0", "a b 5 0", "a b 6 0", "b a 99 0");
+        run = Run.told(seven).gives("letOff(0)", 21).asks("man(0, 5)", 0).asks("debt(6, 2)", 78);
+        run = Run.told(seven.replace("b a 99", "b a 7")).gives("letOff(0)", 7).asks("debt(2, 2)", 0)
+            .asks("debt(3, 2)", 3).asks("debt(4, 2)", 5).asks("debt(5, 2)", 6).asks("debt(6, 2)", 0);
         run = Run.told(FIVE + Texts.owes("a e 5 0", "e b 4 0", "b d 3 0", "d c 2 0", "c a 1 0")).gives("letOff(3)", 1);
         for (int k = 0; k < 5; k++) {
             run.asks("debt(" + k + ", 2)", 4 - k);
@@ -96,8 +101,8 @@ final class RingEdges {
 
     private static void ringAt() {
         Doc.says("Promise 25", "The i-th man of it (0: himself).");
-        Run.told(SOME).tells("ringAt(1, 0)", 1).tells("ringAt(1, 1)", 2).tells("ringAt(1, 2)", 0).tells("ringAt(2, 0)", 2)
-            .tells("ringAt(2, 1)", 0);
+        Run.told(SOME).tells("ringAt(1, 0)", 1).tells("ringAt(1, 1)", 2).tells("ringAt(1, 2)", 0)
+            .tells("ringAt(2, 0)", 2).tells("ringAt(2, 1)", 0);
         Doc.says("Promise 25", "NONE: 1 (i, too; there is none).");
         Run.told(SOME).refusesBeyond("ringAt(1, #)", 0, 2, -1, 1).refusesBeyond("ringAt(#, 0)", 0, 4, -1, 1)
             .refuses("ringAt(3, 0)", -1, 1).refuses("ringAt(3, -2)", -1, 1).refuses("ringAt(0, 2)", -1, 1);

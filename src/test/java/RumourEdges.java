@@ -171,7 +171,8 @@ final class RumourEdges {
         odds(Run.told(one(0, 2, 1, 9)), "likely(0", 0, 1);
         odds(Run.told(one(0, 2, 1, 3)), "likely(0", 1, 1);
         Doc.says("Promise 31", "-1: 1.");
-        Run.told(Check.BASE).refusesBeyond("likely(#, false)", 0, 1, -1, 1).refusesBeyond("likely(#, true)", 0, 1, -1, 1);
+        Run.told(Check.BASE).refusesBeyond("likely(#, false)", 0, 1, -1, 1)
+            .refusesBeyond("likely(#, true)", 0, 1, -1, 1);
         Run.told(three("a b 1 0", "a b 1 0", "b a 99 0", "c a 1 0")).refusesBeyond("likely(#, true)", 0, 3, -1, 1);
         Run.told(Texts.PLAIN + Texts.commons(2) + Texts.owes("a b 1 0")).refuses("likely(0, false)", -1, 1);
     }
@@ -203,7 +204,8 @@ final class RumourEdges {
         Run.told(one(66, 2, 1, 3)).tells("likeliest()", 1);
         Run.told(one(67, 2, 1, 3)).tells("likeliest()", 0);
         Run.told(three("a b 2 0", "a b 1 0", "a b 1 0", "b a 1 0") + Texts.reads("a 2")).tells("likeliest()", 1);
-        Run.told(three("b a 1 0", "a b 1 0", "a b 1 0", "b a 1 0") + Texts.reads("a 2", "b 2")).tells("likeliest()", 15);
+        Run.told(three("b a 1 0", "a b 1 0", "a b 1 0", "b a 1 0") + Texts.reads("a 2", "b 2"))
+            .tells("likeliest()", 15);
         Run.told(Texts.PLAIN + Texts.commons(1)).tells("likeliest()", 0);
         Doc.says("Promise 33", "-2 no FITS.");
         Run.told(one(0, 2, 1, 9)).tells("likeliest()", -2);
@@ -250,7 +252,8 @@ final class RumourEdges {
         Run.told(one(100, 2, 1, 1, 3, 2)).tells("judge()", 2);
         Run.told(one(1, 0, 1, 0, 1, 2)).tells("judge()", 2);
         Run.told(one(100, 0, 1, 1, 0)).tells("judge()", 1);
-        Run run = Run.told(Texts.PLAIN + Texts.commons(2) + Texts.owes("a b 5 1") + Texts.reads("a 0")).tells("judge()", -2);
+        Run run = Run.told(Texts.PLAIN + Texts.commons(2) + Texts.owes("a b 5 1") + Texts.reads("a 0"))
+            .tells("judge()", -2);
         run.does("spring()");
         run.tells("judge()", 0);
         Doc.says("Promise 36", "NONE: 1 (no DUCHY).");

@@ -82,7 +82,8 @@ final class TextEdges {
         good(Texts.PLAIN + ";man a common coins 0 strong 0;man z lady coins 0 strong 0", 2);
         good(Texts.PLAIN + ";man abcdefgh common coins 0 strong 0", 1);
         good(Texts.PLAIN + ";man zzzzzzzz common coins 0 strong 0;man zzzzzzzy common coins 0 strong 0"
-            + ";man zzzzzzz common coins 0 strong 0;man aaaaaaaa common coins 0 strong 0;man a duke coins 0 strong 0", 5);
+            + ";man zzzzzzz common coins 0 strong 0;man aaaaaaaa common coins 0 strong 0;man a lady coins 0 strong 0",
+            5);
         at(Texts.PLAIN + ";man # common coins 0 strong 0", "abcdefghi", 1);
         at(Texts.PLAIN + ";man # common coins 0 strong 0", "abcdefghabcdefgh", 1);
         at("# tine 1", "duchyduch", 1);
