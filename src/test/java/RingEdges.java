@@ -40,6 +40,8 @@ final class RingEdges {
         through(Run.told(all), 4, 1, 4, 1, 3, 2, 0);
         // A shorter ring is ahead of one that is first by men.
         through(Run.told(FIVE + Texts.owes("a b 9 0", "b c 9 0", "c a 9 0", "a e 1 0", "e a 1 0")), 0, 1, 0, 4);
+        through(Run.told(FIVE + Texts.owes("a b 1 0", "b a 1 0", "a c 9 0", "c b 9 0")), 0, 1, 0, 1);
+        through(Run.told(FIVE + Texts.owes("a c 9 0", "c b 9 0", "b a 9 0", "a d 9 0", "d c 9 0")), 0, 9, 0, 2, 1);
         // Of like ones the first man counts first, whichever debt is told first.
         through(Run.told(FIVE + Texts.owes("a e 9 0", "e a 9 0", "a d 1 0", "d a 1 0")), 0, 1, 0, 3);
         through(Run.told(FIVE + Texts.owes("a d 9 0", "d b 9 0", "b a 9 0", "a c 1 0", "c e 1 0", "e a 1 0")), 0, 1,
