@@ -236,9 +236,7 @@ final class ActEdges {
         new Run().leavesTrouble("led(0)", Run.THREW).leavesTrouble("led(-1)", Run.THREW);
         run = Run.told(PAIR);
         run.does("spring()");
-        Run with = run.again();
-        with.does("led(2)");
-        Check.same("all behind led", with.all(true), run.again().all(true));
+        run.asks("led(0)", 0).asks("led(2)", Run.THREW).changesNothing("led(0)").changesNothing("led(2)");
     }
 
     private static void size() {
@@ -273,7 +271,9 @@ final class ActEdges {
 
     private static void trouble() {
         Doc.says("Promise 53", "TROUBLE.");
-        new Run().asks("trouble()", 0).asks("heads()", -1).asks("trouble()", 1).asks("trouble()", 1);
+        new Run().asks("trouble()", 0).asks("heads()", -1).asks("trouble()", 1).asks("trouble()", 1)
+            .changesNothing("trouble()");
+        Run.told(PAIR).changesNothing("trouble()");
         Doc.says("Terms IV", "0 it wasn't; 1 there is none such; 2 a number; 3 no room; 4 a FAULT; 5 not so; "
             + "6 there is none.");
         Run run = Run.told(PAIR).asks("trouble()", 0).asks("man(3, 0)", -1).asks("trouble()", 1)

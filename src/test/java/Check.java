@@ -1,5 +1,7 @@
 import java.nio.charset.StandardCharsets;
 import java.util.NoSuchElementException;
+import java.util.Set;
+import java.util.TreeSet;
 
 /** What the tests share: they count answers that are not as due, and tell an object a text. */
 final class Check {
@@ -13,8 +15,12 @@ final class Check {
         + "door great wide 6;door low wide 2;door hole wide 0;invited abe low;invited cal great;invited dov hole;"
         + "read abe 4;read cal 4";
 
+    /** What those answers were about that were not as due. */
+    static final Set<String> WRONG_ABOUT = new TreeSet<>();
+
     private static int right = 0;
     private static int wrong = 0;
+    private static int printed = 50;
     private static String about = "";
 
     private Check() {
@@ -23,6 +29,11 @@ final class Check {
     /** What the next answers are about, printed ahead of those that are not as due. */
     static void about(String words) {
         about = words.isEmpty() ? "" : words + ": ";
+    }
+
+    /** Nothing is printed of answers that are not as due; they are counted all the same. */
+    static void quietly() {
+        printed = 0;
     }
 
     static void due(String what, long got, long want) {
@@ -44,7 +55,8 @@ final class Check {
 
     private static void tellWrong(String what, String got, String want) {
         wrong++;
-        if (wrong <= 50) {
+        WRONG_ABOUT.add(about);
+        if (wrong <= printed) {
             System.out.println(about + what + " answered " + got + ", due is " + want);
         }
     }
@@ -71,8 +83,7 @@ final class Check {
     static AntlerYear told(String text) {
         AntlerYear x = new AntlerYear();
         if (tell(x, text) < 1) {
-            wrong++;
-            System.out.println("no duchy: fault " + x.fault() + " at " + x.where() + " of " + text);
+            tellWrong("duchy of " + text, "fault " + x.fault() + " at " + x.where(), "no fault");
         }
         return x;
     }

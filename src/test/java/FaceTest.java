@@ -1,15 +1,23 @@
+import java.io.IOException;
 import java.lang.reflect.Constructor;
 import java.lang.reflect.Field;
 import java.lang.reflect.Method;
 import java.lang.reflect.Modifier;
+import java.nio.file.Files;
+import java.nio.file.Path;
+import java.util.ArrayList;
 import java.util.Arrays;
 import java.util.HashSet;
+import java.util.List;
 import java.util.Set;
 import java.util.TreeSet;
+import java.util.regex.Matcher;
+import java.util.regex.Pattern;
 
 /** The public face, to the letter, and LANGUAGE.md's rule 1 and rule 5 as far as reflection sees them. */
 public final class FaceTest {
-    private static final String[] FACE = {
+    /** The calls in the document's order: the first one is promise 2. */
+    static final String[] FACE = {
         "int feed(int, int, int, int, int)", "int duchy(int)", "int fault()", "int where()", "int man(int, int)",
         "int debt(int, int)", "int door(int, int)", "int heads()", "int greatest()", "int bald()",
         "int headIn(int, int)", "int when(int, int)", "int worstSpring()", "int shutIn(int, int)",
@@ -26,7 +34,8 @@ public final class FaceTest {
     private FaceTest() {
     }
 
-    public static void main(String[] args) {
+    public static void main(String[] args) throws IOException {
+        document();
         Class<?> c = AntlerYear.class;
         Check.due("public", Modifier.isPublic(c.getModifiers()), true);
         Check.due("final", Modifier.isFinal(c.getModifiers()), true);
@@ -43,6 +52,20 @@ public final class FaceTest {
         }
         Check.due("at most twelve classes", c.getDeclaredClasses().length < 12, true);
         Check.end();
+    }
+
+    /** The face that is looked for is the one that the document writes, call by call. */
+    private static void document() throws IOException {
+        Pattern call = Pattern.compile(" {4}public (\\w+ \\w+\\()(.*)\\)( throws )?(\\w*);");
+        List<String> calls = new ArrayList<>();
+        for (String line : Files.readAllLines(Path.of("../shared/DOC.md"))) {
+            Matcher written = call.matcher(line);
+            if (written.matches()) {
+                calls.add(written.group(1) + written.group(2).replaceAll(" \\w+(?=,|$)", "") + ")"
+                    + (written.group(3) == null ? "" : " throws java.util." + written.group(4)));
+            }
+        }
+        Check.same("the document's face", String.join("; ", calls), String.join("; ", FACE));
     }
 
     private static void methods(Class<?> c) {

@@ -1,7 +1,7 @@
 /** The edges of promises 24 to 28: rings of debts. */
 final class RingEdges {
     private static final String FIVE = Texts.PLAIN + Texts.commons(5);
-    /** Through a two men, through b and c four, through d and e none. */
+    /** Through a and c two men, through b three, through d and e none. */
     private static final String SOME = FIVE
         + Texts.owes("a b 5 0", "b c 7 0", "c a 6 0", "a c 2 0", "d a 9 0", "c a 1 1", "d e 9 0");
 

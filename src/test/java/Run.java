@@ -66,13 +66,12 @@ final class Run {
 
     /** A call that is not refused and changes nothing. */
     Run tells(String call, long want) {
-        unchangedBy(call);
-        return gives(call, want);
+        return changesNothing(call).gives(call, want);
     }
 
     /** A refused call: its answer, its TROUBLE, which was another one ahead of it, and nothing else is changed. */
     Run refuses(String call, long want, int trouble) {
-        unchangedBy(call);
+        changesNothing(call);
         does(trouble == 2 ? "man(-1, 0)" : "duchy(-1)");
         return asks(call, want).asks("trouble()", trouble);
     }
@@ -85,10 +84,11 @@ final class Run {
         return this;
     }
 
-    private void unchangedBy(String call) {
+    Run changesNothing(String call) {
         Run with = again();
         with.does(call);
         Check.same("all behind " + call, with.all(true), again().all(true));
+        return this;
     }
 
     /** A call of which no number is told: TROUBLE stays. */
